@@ -23,6 +23,9 @@ final class RunningTest {
         fullAheadOfDeep();
         deepByGoingOn();
         recFull();
+        allTheDepth();
+        eightClauses();
+        fortyLevels();
         longRuns();
         due.end();
     }
@@ -400,6 +403,116 @@ final class RunningTest {
         ends("a rec is a THING", "5 0 334 1000 334 -1", p, main);
         int other = loop(p, 3, p.handle(one, 0, 0, one), 333);
         ends("so is a handle", "5 0 334 1000 334 -1", p, other);
+    }
+
+    /** The handler that is found stands under all that DEPTH allows. */
+    private static void allTheDepth() {
+        EffectNodes p = new EffectNodes();
+        int one = p.atom(0, 1);
+        int k = p.atom(3, 3);
+        p.clause(0, 4, 3, p.atom(3, 4));
+        int dropped = p.handle(loop(p, 0, p.perform(0, p.atom(0, 6)), 398), 255, 5, p.atom(3, 5));
+        ends("400 are dropped", "2 6 400 403 0 -1", p, dropped);
+        p.clause(0, 4, 3, p.call(k, one));
+        int gone = p.handle(loop(p, 0, p.perform(0, one), 398), 255, 5, p.two(0, p.atom(3, 5), one));
+        ends("400 upon the clause are one too many", "6 0 401 403 1 -1", p, gone);
+        p.clause(0, 4, 3, p.call(k, one));
+        int less = p.handle(loop(p, 0, p.perform(0, one), 397), 255, 5, p.two(0, p.atom(3, 5), one));
+        ends("399 are not", "2 2 400 402 0 -1", p, less);
+        ends("and once more", "2 2 400 402 0 -1", p, less);
+    }
+
+    private static void eightClauses() {
+        for (int e = 0; e < 8; e++) {
+            EffectNodes p = new EffectNodes();
+            int x = p.atom(3, 6);
+            for (int own = 7; own >= 0; own--) {
+                p.clause(own, 6, 2, p.two(0, x, p.atom(0, own)));
+            }
+            ends("effect " + e, "2 " + (40 + e) + " 1 3 0 -1", p, p.handle(p.perform(e, p.atom(0, 40)), 0, 1, p.atom(3, 1)));
+        }
+    }
+
+    /** One node more around an int EXPR, in which its name 5 is known, so that it stands as the given part. */
+    private static int around(EffectNodes p, int how, int part) {
+        int one = 0;
+        int yes = 1;
+        int same = 2;
+        int k = 3;
+        switch (how) {
+            case 0:
+                return p.let(5, part, one);
+            case 1:
+                return p.let(5, one, part);
+            case 2:
+                return p.rec(5, 6, 3, part, one);
+            case 3:
+                return p.rec(6, 7, 3, one, part);
+            case 4:
+                return p.choice(yes, part, one);
+            case 5:
+                return p.choice(yes, one, part);
+            case 6:
+                return p.two(0, part, one);
+            case 7:
+                return p.two(0, one, part);
+            case 8:
+                return p.call(same, part);
+            case 9:
+                return p.handle(part, 255, 4, one);
+            case 10:
+                return p.handle(one, 255, 4, part);
+            case 11:
+                p.clause(0, 4, 4, part);
+                return p.handle(k, 255, 4, one);
+            default:
+                return p.perform(1, part);
+        }
+    }
+
+    private static void fortyLevels() {
+        for (int how = 0; how <= 12; how++) {
+            EffectNodes p = new EffectNodes();
+            p.atom(0, 1);
+            p.atom(1, 1);
+            p.fn(8, 0, 0);
+            p.perform(0, 0);
+            p.function(0, 0, 255);
+            int node = p.two(0, p.atom(0, 5), p.atom(0, 0));
+            for (int level = 3; level <= 40; level++) {
+                node = around(p, how, node);
+            }
+            int good = node;
+            int deep = around(p, how == 11 ? 10 : how, node);
+            int kind = how;
+            due.is("40 levels of " + kind, how == 12 ? 4 : 2, () -> {
+                p.check(good);
+                Due.worked(p);
+                return p.state(0);
+            });
+            due.illegalState("41 levels of " + kind, () -> p.check(deep));
+            if (how == 7) {
+                due.is("all were worked", 5 + 38, () -> p.state(1));
+            }
+            if (how == 8) {
+                due.is("all were called", "1 38", () -> p.state(1) + " " + p.state(2));
+            }
+        }
+        fortyFunctions();
+    }
+
+    /** Each function calls the next one inside it, which stands one level deeper. */
+    private static void fortyFunctions() {
+        EffectNodes p = new EffectNodes();
+        int one = p.atom(0, 1);
+        int node = p.atom(3, 0);
+        for (int level = 2; level <= 40; level++) {
+            node = p.fn(0, 0, node);
+        }
+        int inner = node;
+        due.is("39 functions", "41 | 0 -1 0", () -> Due.checked(p, inner));
+        int called = p.call(inner, one);
+        due.illegalState("and a call", () -> p.check(called));
     }
 
     /** A call that comes back leaves nothing behind: DEPTH, THINGS and room do not grow. */
