@@ -618,9 +618,7 @@ public final class EffectNodes {
             this.types = types;
             this.given = given;
             this.result = result;
-            faultKind = NO_FAULT;
             faultNode = NONE;
-            effects = 0;
         }
 
         void forget() {
@@ -854,10 +852,11 @@ public final class EffectNodes {
             int handled = 0;
             for (int i = node.clausesFrom; i < node.clausesTo; i++) {
                 Clause clause = nodes.clauseAt(i);
-                if (!isWithin(1 << clause.effect, ~handled)) {
+                int bit = 1 << clause.effect;
+                if ((handled & bit) != 0) {
                     return blame(SECOND_CLAUSE, clause.body);
                 }
-                handled |= 1 << clause.effect;
+                handled |= bit;
                 if (!clauseKeepsTo(clause, answer, row, level)) {
                     return FAILED;
                 }
