@@ -310,7 +310,7 @@ final class RunningTest {
     }
 
     /** rec f (x) = if x < 1 then last else (makes functions, then f (x - 1)) in f count */
-    private static int loop(EffectNodes p, int makes, int last, int count) {
+    static int loop(EffectNodes p, int makes, int last, int count) {
         int type = p.function(0, 0, 255);
         int f = p.atom(3, 8);
         int x = p.atom(3, 9);
