@@ -12,6 +12,7 @@ final class CheckingEdgesTest {
         sizes();
         hugeSizes();
         depths();
+        faultsAndEffectsOfParts();
         refusedAheadOfFaults();
         faultsDropTheProgram();
         faultsLeaveTheRest();
@@ -152,43 +153,64 @@ final class CheckingEdgesTest {
     private static final String[] PARTS = {"let a", "let b", "rec a", "rec b", "choice a", "choice b", "choice c", "fn a",
         "handle a", "handle b", "clause", "two a", "two b", "call a", "call b", "perform a"};
 
-    /** An EXPR that is just so deep by one of its parts. */
-    private static int partOfDepth(EffectNodes p, int part, int depth) {
-        int deep = ofDepth(p, depth - 1);
+    /** An EXPR with a given int EXPR as one of its parts, or in a part that must be a bool or a function. */
+    private static int withPart(EffectNodes p, int part, int node) {
         switch (part) {
             case 0:
-                return p.let(0, deep, 0);
+                return p.let(0, node, 0);
             case 1:
-                return p.let(0, 0, deep);
+                return p.let(0, 0, node);
             case 2:
-                return p.rec(0, 1, p.function(0, 0, 255), deep, 0);
+                return p.rec(0, 1, p.function(0, 0, 255), node, 0);
             case 3:
-                return p.rec(0, 1, p.function(0, 0, 255), 0, deep);
+                return p.rec(0, 1, p.function(0, 0, 255), 0, node);
             case 4:
-                return p.choice(p.two(3, ofDepth(p, depth - 2), 0), 0, 0);
+                return p.choice(p.two(3, node, 0), 0, 0);
             case 5:
-                return p.choice(1, deep, 0);
+                return p.choice(1, node, 0);
             case 6:
-                return p.choice(1, 0, deep);
+                return p.choice(1, 0, node);
             case 7:
-                return p.fn(0, 0, deep);
+                return p.fn(0, 0, node);
             case 8:
-                return p.handle(deep, 255, 0, 0);
+                return p.handle(node, 255, 0, 0);
             case 9:
-                return p.handle(0, 255, 0, deep);
+                return p.handle(0, 255, 0, node);
             case 10:
-                p.clause(0, 0, 1, deep);
+                p.clause(0, 0, 1, node);
                 return p.handle(0, 255, 0, 0);
             case 11:
-                return p.two(0, deep, 0);
+                return p.two(0, node, 0);
             case 12:
-                return p.two(0, 0, deep);
+                return p.two(0, 0, node);
             case 13:
-                return p.call(p.fn(0, 0, ofDepth(p, depth - 2)), 0);
+                return p.call(p.let(2, node, p.fn(0, 0, 0)), 0);
             case 14:
-                return p.call(p.fn(0, 0, 0), deep);
+                return p.call(p.fn(0, 0, 0), node);
             default:
-                return p.perform(0, deep);
+                return p.perform(0, node);
+        }
+    }
+
+    /** An EXPR that is just so deep by one of its parts. */
+    private static int partOfDepth(EffectNodes p, int part, int depth) {
+        boolean isInPart = part == 4 || part == 13;
+        return withPart(p, part, ofDepth(p, depth - (isInPart ? 2 : 1)));
+    }
+
+    /** The faults and effects of each part are those of the whole, but where the document says otherwise. */
+    private static void faultsAndEffectsOfParts() {
+        for (int i = 0; i < PARTS.length; i++) {
+            int part = i;
+            edges.accepted("a fault in " + PARTS[i], BAD + "5 10 -1", Edges::few, p ->
+                    Due.checked(p, withPart(p, part, p.atom(3, 9))));
+            boolean hasNone = part == 2 || part == 7;
+            boolean hasRow = part == 8 || part == 9 || part == 10;
+            int all = hasNone ? 0 : hasRow ? 255 : part == 15 ? 33 : 32;
+            edges.accepted("effects of " + PARTS[i], "0 -1 " + all, Edges::few, p -> {
+                p.check(withPart(p, part, p.perform(5, 0)));
+                return Due.faults(p);
+            });
         }
     }
 

@@ -26,6 +26,10 @@ final class RunningEdgesTest {
         goneOnOnce();
         goneOnTwice();
         unhandledByAny();
+        fortyDeep();
+        firstAndLastName();
+        anotherProgram();
+        waitingOperands();
         due.end();
     }
 
@@ -465,5 +469,137 @@ final class RunningEdgesTest {
                 return p.handle(p.atom(0, 1), 255, 3, p.perform(effect, p.atom(0, 1)));
             });
         }
+    }
+
+    private static final String[] PARTS = {"let a", "let b", "rec a", "rec b", "choice a", "choice b", "choice c", "fn a",
+        "handle a", "handle b", "clause", "two a", "two b", "call a", "call b", "perform a"};
+
+    /** One EXPR around an int EXPR, with that one worked as the given part; it has one level more, or two. */
+    private static int around(EffectNodes p, int part, int node) {
+        int one = 0;
+        switch (part) {
+            case 0:
+                return p.let(0, node, one);
+            case 1:
+                return p.let(0, one, node);
+            case 2:
+                return p.rec(5, 6, 3, node, p.call(2, one));
+            case 3:
+                return p.rec(5, 6, 3, one, node);
+            case 4:
+                return p.choice(p.two(3, node, one), one, one);
+            case 5:
+                return p.choice(1, node, one);
+            case 6:
+                return p.choice(3, one, node);
+            case 7:
+                return p.call(p.fn(0, 0, node), one);
+            case 8:
+                return p.handle(node, 255, 0, one);
+            case 9:
+                return p.handle(one, 255, 0, node);
+            case 10:
+                p.clause(1, 0, 1, node);
+                return p.handle(4, 255, 0, one);
+            case 11:
+                return p.two(0, node, one);
+            case 12:
+                return p.two(0, one, node);
+            case 13:
+                return p.call(p.let(0, node, 5), one);
+            case 14:
+                return p.call(5, node);
+            default:
+                return p.perform(1, node);
+        }
+    }
+
+    /** What stands 40 deep is worked, as each part of each EXPR: its PERFORM is the first that nobody handles. */
+    private static void fortyDeep() {
+        for (int part = 0; part < PARTS.length; part++) {
+            EffectNodes p = new EffectNodes();
+            p.atom(0, 1);
+            p.atom(1, 1);
+            p.atom(3, 5);
+            p.atom(1, 0);
+            p.perform(1, 0);
+            p.fn(0, 0, 0);
+            p.function(0, 0, 255);
+            boolean isInPart = part == 4 || part == 7 || part == 13;
+            int node = p.perform(6, 0);
+            for (int level = 2; level < 40; level += isInPart ? 2 : 1) {
+                node = around(p, part, node);
+            }
+            int whole = node;
+            due.is("40 deep: " + PARTS[part], "4 6", () -> {
+                p.check(whole);
+                Due.worked(p);
+                return p.state(0) + " " + p.state(5);
+            });
+            due.illegalState("41 deep: " + PARTS[part], () -> p.check(p.two(0, whole, whole)));
+        }
+    }
+
+    /** The first name and the last one, wherever a name is given. */
+    private static void firstAndLastName() {
+        for (int name : new int[] {0, 9}) {
+            int other = 9 - name;
+            ends("let " + name, "2 7 0 0 0 -1", p -> p.let(name, p.atom(0, 7), p.let(other, p.atom(0, 8), p.atom(3, name))));
+            ends("fn " + name, "2 15 2 2 0 -1", p -> {
+                int sum = p.two(0, p.atom(3, name), p.two(0, p.atom(3, name), p.atom(3, other)));
+                return p.call(p.call(p.fn(name, 0, p.fn(other, 0, sum)), p.atom(0, 7)), p.atom(0, 1));
+            });
+            ends("rec " + name + ", no first thing", "2 120 6 2 0 -1", p -> {
+                int one = p.atom(0, 1);
+                int x = p.atom(3, other);
+                int f = p.atom(3, name);
+                int body = p.choice(p.two(3, x, one), one, p.two(2, x, p.call(f, p.two(1, x, one))));
+                return p.let(5, p.fn(0, 0, one), p.rec(name, other, p.function(0, 0, 0), body, p.call(f, p.atom(0, 5))));
+            });
+            ends("return " + name, "2 16 0 1 0 -1", p ->
+                    p.handle(p.atom(0, 8), 0, name, p.two(0, p.atom(3, name), p.atom(3, name))));
+            ends("clause " + name, "2 43 2 3 0 -1", p -> {
+                p.clause(7, name, other, p.two(0, p.call(p.atom(3, other), p.atom(0, 1)), p.atom(3, name)));
+                return p.handle(p.two(0, p.perform(7, p.atom(0, 40)), p.atom(0, 2)), 0, name, p.atom(3, name));
+            });
+        }
+    }
+
+    /** Nothing of a run is left in the next one, though its things were of other kinds. */
+    private static void anotherProgram() {
+        EffectNodes p = Edges.few();
+        due.is("two continuations", "3: 2 2 4 5 0 -1", () -> p.run(200) + ": " + Due.states(p));
+        int function = p.fn(0, 0, p.two(0, 8, 0));
+        int node = 0;
+        for (int i = 0; i < 5; i++) {
+            node = p.call(function, node);
+        }
+        int calls = node;
+        due.is("five functions", "5: 2 6 5 5 0 -1", () -> {
+            p.check(calls);
+            p.start();
+            return p.run(200) + ": " + Due.states(p);
+        });
+        due.is("two continuations again", "4: 2 2 4 5 0 -1", () -> {
+            p.check(9);
+            p.start();
+            return p.run(200) + ": " + Due.states(p);
+        });
+    }
+
+    /** A program that is begun anew while 38 operands wait, again and again. */
+    private static void waitingOperands() {
+        EffectNodes p = new EffectNodes();
+        int one = p.atom(0, 1);
+        int node = p.call(p.fn(0, 0, p.atom(3, 0)), one);
+        for (int i = 0; i < 37; i++) {
+            node = p.two(0, one, node);
+        }
+        p.check(node);
+        for (int i = 0; i < 20; i++) {
+            p.start();
+            due.is("it waits", "0: 1 0 0 1 0 -1", () -> p.run(0) + ": " + Due.states(p));
+        }
+        due.is("and goes on", "1: 2 38 1 1 0 -1", () -> p.run(1) + ": " + Due.states(p));
     }
 }

@@ -50,7 +50,7 @@ final class TellingEdgesTest {
         edges.accepted("no program, no fault", "0 -1 0 0 0 0 0 0 -1", made, p -> Due.faults(p) + " " + Due.states(p));
         for (int t = -1; t <= 63; t++) {
             int type = t;
-            edges.accepted("no function type " + t, "-1 -1 -1", made, p -> p.type(type, 0) + " " + p.type(type, 1) + " " + p.type(type, 2));
+            edges.accepted("no function type " + t, t + " -1 -1 -1", made, p -> told(p, type));
             edges.accepted("type " + t + " is there", t >= 0 && t <= 2, made, p -> p.fits(type, type));
         }
         edges.refused("no node to check", Edges.INDEX, made, p -> p.check(0));
@@ -331,7 +331,8 @@ final class TellingEdgesTest {
         }
         accepted("fn: the first of all", "10: 3, 2 0", p -> worked(p, p.fn(0, 0, 0)));
         accepted("fn: the last of all", "10: 5, 2 0", p -> worked(p, p.fn(9, 4, 9)));
-        accepted("fn: of each type", "5 6 7", p -> p.check(p.fn(9, 1, 9)) + " " + p.check(p.fn(9, 2, 9)) + " " + p.check(p.fn(9, 3, 9)));
+        accepted("fn: of each type", "5 6 7", p ->
+                p.check(p.fn(9, 1, 9)) + " " + p.check(p.fn(9, 2, 9)) + " " + p.check(p.fn(9, 3, 9)));
     }
 
     // Promises 10 and 11.
