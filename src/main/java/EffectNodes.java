@@ -1462,35 +1462,36 @@ public final class EffectNodes {
             }
             int argument = frame.pop();
             Frame holder = frame;
-            for (int brings = 1; brings <= MOST_DEPTH && holder != null; brings++) {
-                int clause = code.caseOf(holder.handler, effect);
-                if (clause != NONE) {
-                    workClause(holder, brings, clause, argument);
-                    return;
-                }
+            int clause = code.caseOf(holder.handler, effect);
+            int brings = 1;
+            while (clause == NONE && holder.below != null && brings <= MOST_DEPTH) {
                 holder = holder.below;
+                clause = code.caseOf(holder.handler, effect);
+                brings++;
             }
-            unhandled = effect;
-            state = UNHANDLED;
+            if (clause == NONE) {
+                unhandled = effect;
+                state = UNHANDLED;
+            } else if (!isFull(1 + brings)) {
+                Frame below = holder.below;
+                int continuation = holdFrames(holder, brings);
+                enter(below, holder.handler, code.field(clause, 2));
+                top.give(code.field(clause, 3), argument);
+                top.give(code.field(clause, 4), continuation);
+            }
         }
 
-        /** The frames down to the handler's become the continuation; the clause's stands in their place. */
-        private void workClause(Frame holder, int brings, int clause, int argument) {
-            if (isFull(1 + brings)) {
-                return;
-            }
+        /** The frames down to the handler's become a continuation; its number. */
+        private int holdFrames(Frame holder, int brings) {
             thingCount += 1 + brings;
             depth -= brings;
             int number = store.takeThing();
             Thing continuation = store.thingAt(number);
-            if (continuation == null) {
-                return;
+            if (continuation != null) {
+                continuation.hold(top, holder, brings);
             }
-            continuation.hold(top, holder, brings);
-            enter(holder.below, holder.handler, code.field(clause, 2));
             holder.below = null;
-            top.give(code.field(clause, 3), argument);
-            top.give(code.field(clause, 4), number);
+            return number;
         }
 
         private void end(Frame frame) {

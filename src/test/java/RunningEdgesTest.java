@@ -30,6 +30,7 @@ final class RunningEdgesTest {
         firstAndLastName();
         anotherProgram();
         waitingOperands();
+        fortyOperands();
         due.end();
     }
 
@@ -601,5 +602,44 @@ final class RunningEdgesTest {
             due.is("it waits", "0: 1 0 0 1 0 -1", () -> p.run(0) + ": " + Due.states(p));
         }
         due.is("and goes on", "1: 2 38 1 1 0 -1", () -> p.run(1) + ": " + Due.states(p));
+    }
+
+    /** In a program 40 deep each of 39 EXPRs keeps one value while the last one is worked: none may be lost. */
+    private static void fortyOperands() {
+        // 1 - (4 - (9 - .. (1521 - 1600))): a value that is lost would be seen.
+        int waiting = 1600;
+        for (int i = 39; i >= 1; i--) {
+            waiting = i * i - waiting;
+        }
+        ends("39 numbers wait", "2 " + waiting + " 0 0 0 -1", p -> {
+            int node = p.atom(0, 1600);
+            for (int i = 39; i >= 1; i--) {
+                node = p.two(1, p.atom(0, i * i), node);
+            }
+            return node;
+        });
+        ends("39 names wait", "2 39 0 0 0 -1", p -> {
+            int node = p.atom(3, 0);
+            for (int i = 39; i >= 1; i--) {
+                node = p.let(0, p.atom(0, i), node);
+            }
+            return node;
+        });
+        ends("38 functions and a name wait", "2 154 38 1 0 -1", p -> {
+            int more = p.fn(0, 0, p.two(0, p.atom(3, 0), p.atom(0, 3)));
+            int node = p.atom(0, 40);
+            for (int i = 0; i < 38; i++) {
+                node = p.call(p.atom(3, 1), node);
+            }
+            return p.let(1, more, node);
+        });
+        ends("37 numbers wait in a continuation", "2 46 2 3 0 -1", p -> {
+            int node = p.perform(0, p.atom(0, 1));
+            for (int i = 0; i < 37; i++) {
+                node = p.two(0, p.atom(0, 1), node);
+            }
+            p.clause(0, 0, 1, p.call(p.atom(3, 1), p.atom(0, 9)));
+            return p.handle(node, 0, 0, p.atom(3, 0));
+        });
     }
 }

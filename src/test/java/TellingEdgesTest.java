@@ -116,6 +116,10 @@ final class TellingEdgesTest {
             }
             return last + " " + Due.answerOf(() -> p.clause(0, 0, 0, 0));
         });
+        edges.accepted("all effects give int again", "0 0 0 0 0 0 0 0", TellingEdgesTest::allEffects, p -> {
+            p.clear();
+            return givenByEffects(p);
+        });
         edges.accepted("which types fit is forgotten, too", "false true", Edges::few, p -> {
             int none = p.function(0, 0, 1);
             p.fits(3, none);
@@ -124,6 +128,18 @@ final class TellingEdgesTest {
             int fewer = p.function(0, 0, 8);
             return p.fits(more, fewer) + " " + p.fits(fewer, more);
         });
+    }
+
+    /** What each effect gives, as the argument's type of its continuation, which check() numbers. */
+    private static String givenByEffects(EffectNodes p) {
+        StringBuilder all = new StringBuilder();
+        int one = p.atom(0, 1);
+        for (int e = 0; e < 8; e++) {
+            p.clause(e, 0, 1, one);
+            p.check(p.handle(one, 1 << e, 0, one));
+            all.append(e == 0 ? "" : " ").append(p.type(3 + e, 0));
+        }
+        return all.toString();
     }
 
     private static EffectNodes fortyReady() {
